@@ -800,7 +800,7 @@ public final class LarkExchange {
             chalks(day);
             for (int line = 0; line < trades.count; line++) {
                 if (trades.cell(line, 0) == day.day) {
-                    trades(day, line, real);
+                    deals(day, line, real);
                 }
             }
             ruins(day, real);
@@ -857,7 +857,7 @@ public final class LarkExchange {
             }
         }
 
-        private void trades(World day, int line, boolean real) {
+        private void deals(World day, int line, boolean real) {
             int trader = trades.cell(line, 1);
             int n = trades.cell(line, 3);
             int good = trades.cell(line, 4);
@@ -968,7 +968,7 @@ public final class LarkExchange {
             used = 0;
         }
 
-        void begins(int word) {
+        void opens(int word) {
             if (lines < TEXT_LINES) {
                 words[lines] = word;
                 begins[lines] = used;
@@ -1314,7 +1314,7 @@ public final class LarkExchange {
         }
 
         private boolean readsLaw() {
-            law.begins(kind());
+            law.opens(kind());
             at++;
             if (!readsSum()) {
                 return false;
