@@ -326,7 +326,12 @@ public final class PromisesTest {
     LarkExchange x = town(2, 2, 2);
     c.faulty(x, 0, "rises;", 1, 5);
     c.faulty(x, 0, "Rises 1;", 1, 0);
-    c.faulty(x, 0, "risesx 1;", 1, 0);
+    for (String letter : new String[] {"a", "z", "A", "Z", "x"}) c.faulty(x, 0, "rises" + letter + " 1;", 1, 0);
+    for (String none : new String[] {"@", "[", "`", "{", ":", ".", ","}) c.faulty(x, 0, "rises" + none + " 1;", 1, 5);
+    c.faulty(x, 0, ";".repeat(400), 1, 0);
+    c.faulty(x, 0, "asks 1" + "+1".repeat(197), 1, 400);
+    c.due("11 a full tape", Check.text(x, 0, "asks 1" + "+1".repeat(196) + " ;"), 1);
+    c.due("11 and its sum", x.goodOf(0, 3), 197);
     c.faulty(x, 0, "  on 1;", 1, 2);
     c.faulty(x, 0, "rises 12345;", 1, 6);
     c.faulty(x, 0, "rises -1;", 1, 6);
@@ -693,6 +698,7 @@ public final class PromisesTest {
     c.due("32 alike", x.caught(4, 4), 0);
     c.due("32 a", x.caught(8, 0), -1);
     c.due("32 b", x.caught(0, -1), -1);
+    c.due("32 b 8", x.caught(0, 8), -1);
     c.due("31 none then", x.way(-1, 99), 0);
     c.due("32 never", x.caught(0, 1), -1);
     for (int i = 0; i < 5; i++) x.way(i, (i + 1) % 5);
@@ -861,6 +867,18 @@ public final class PromisesTest {
       c.due("38 the tape as told", x.text(0), 1);
       c.due("38 asks 7", x.goodOf(0, 3), 7);
     }
+    LarkExchange y = town(0, 2, 2);
+    y.act(0, 0, 0);
+    y.act(0, 1, 1);
+    y.image(true);
+    y.undo();
+    y.undo();
+    for (int i = 0; i < 3; i++) y.act(i % 2, 0, 1);
+    y.days(1);
+    y.image(false);
+    int[] second = {0, 2, 1, 1};
+    c.due("38 lines of the book", y.look(7), 2);
+    for (int w = 0; w < 4; w++) c.due("38 written over since", y.book(1, w), second[w]);
     x.image(true);
     Check.text(x, 0, "asks 8;");
     x.image(false);
