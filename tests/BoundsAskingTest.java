@@ -60,6 +60,11 @@ public final class BoundsAskingTest {
     c.due("the greatest int is more than the least", isSo("8192*8192*32-1>8192*8192*32"), true);
     c.due("not", isSo("not 1=2"), true);
     c.due("not not", isSo("not not 1=2"), false);
+    c.due("not of what is alike", isSo("not 1=1"), false);
+    c.due("not of what is less", isSo("not 1<2"), false);
+    c.due("not of what is more", isSo("not 2>1"), false);
+    c.due("all three and", isSo("1<2 and 2=2 and 3>2"), true);
+    c.due("all three or", isSo("2<1 or 2=1 or 2>3"), false);
     c.due("not of one alone", isSo("not 1=2 and 1=2"), false);
     c.due("not of one alone with or", isSo("not 1=1 or 1=1"), true);
     c.due("not of brackets", isSo("not (1=2 and 1=2)"), true);
@@ -82,6 +87,11 @@ public final class BoundsAskingTest {
     c.due("the first that has none", x.of(0, 5), 1);
     c.fine(x, 0, "asks 1 when 1=2; ".repeat(15) + "asks 77;", 16);
     c.due("the sixteenth", x.goodOf(0, 3), 77);
+    c.fine(x, 0, "asks 1 when 1=2; ".repeat(16), 16);
+    c.due("none of sixteen", x.goodOf(0, 3), 10);
+    c.fine(x, 0, "asks 1 when 1=2; asks 33;", 2);
+    c.fine(x, 0, "asks 1 when 1=2;", 1);
+    c.due("none of what was told ahead", x.goodOf(0, 3), 10);
     c.sentence(13, "(none: rises: 5 and voice, falls: 100 and 100 times scared less 10 times voice, asks: base and height by 10)");
     c.fine(x, 0, "rises 1 when 1=2; falls 1 when 1=2; asks 1 when 1=2;", 3);
     int[] voices = {0, 9, 0, 9};
@@ -112,6 +122,10 @@ public final class BoundsAskingTest {
   }
 
   private static void p13Words() {
+    c.sentence(13, "U = NUMBER | voice | height | top | scared | wind | minute | base | lost | day.");
+    c.due("the greatest number", asked("9999-9000"), 999);
+    c.due("the least number", asked("0+5"), 5);
+    c.due("noughts ahead", asked("0012"), 12);
     c.sentence(13, "voice, height, top, scared, lost: the LARK's (a GOOD by none: 0); wind; minute: which of the dawn's, from 0 (asks: 0); base: the GOOD's (rises, falls: 0); day.");
     LarkExchange x = Check.town(2, 2, 0);
     Check.text(x, 0, "rises 20; falls 0;");
@@ -128,11 +142,11 @@ public final class BoundsAskingTest {
     int[] ofGood = {4, 55, 600, 6, 7, 0, 33, 1, 2};
     int[] ofOther = {0, 0, 0, 0, 7, 0, 44, 0, 2};
     for (int i = 0; i < words.length; i++) {
-      Check.text(x, 0, "rises " + words[i] + "/10; falls " + words[i] + "; asks " + words[i] + "+1;");
-      c.due("rises by " + words[i], x.of(1, 5), ofLark[i] / 10);
-      c.due("falls by " + words[i], x.of(1, 6), ofLark[i]);
-      c.due("asks by " + words[i], x.goodOf(0, 3), ofGood[i] + 1);
-      c.due("asks of a good by none by " + words[i], x.goodOf(1, 3), ofOther[i] + 1);
+      Check.text(x, 0, "rises " + words[i] + "/10+5; falls " + words[i] + "+5; asks " + words[i] + "+5;");
+      c.due("rises by " + words[i], x.of(1, 5), ofLark[i] / 10 + 5);
+      c.due("falls by " + words[i], x.of(1, 6), ofLark[i] + 5);
+      c.due("asks by " + words[i], x.goodOf(0, 3), ofGood[i] + 5);
+      c.due("asks of a good by none by " + words[i], x.goodOf(1, 3), ofOther[i] + 5);
     }
   }
 
@@ -217,7 +231,7 @@ public final class BoundsAskingTest {
   }
 
   private static void p16() {
-    c.sentence(16, "NONE - 9 if there is none such, or another what.");
+    c.sentence(16, "Of line i of THE BOOK what 0 DAY, 1 what, 2 who, 3 how much. NONE - 9 if there is none such, or another what.");
     LarkExchange x = Check.town(0, 1, 1);
     int[] far = {-1, 0, 149, 150, FAR_DOWN, FAR_UP};
     for (int i : far) for (int w = 0; w < 4; w++) c.due("no line " + i, x.book(i, w), -10);
@@ -233,7 +247,7 @@ public final class BoundsAskingTest {
   }
 
   private static void p17() {
-    c.sentence(17, "NONE - 99 if one can't be, or another what.");
+    c.sentence(17, "GOES what 0 PRICES, 1 PURSES, 2 LOST, 3 RUINED. NONE - 99 if one can't be, or another what.");
     LarkExchange x = Check.town(2, 2, 3);
     int[] beyond = {0, -1, 61, FAR_DOWN, FAR_UP};
     for (int n : beyond) for (int w = 0; w <= 3; w++) c.due("days " + n, x.goes(n, w), -100);

@@ -17,6 +17,10 @@ public final class BoundsBackTest {
     found[n++] = x.round(0, 0);
     found[n++] = x.caught(0, 1);
     found[n++] = x.packed(50, 0);
+    found[n++] = x.packed(2, 0);
+    found[n++] = x.packed(2, 1);
+    found[n++] = x.row(0);
+    found[n++] = x.row(3);
     return Arrays.copyOf(found, n);
   }
   private static void same(String what, int[] got, int[] due) {
@@ -179,7 +183,9 @@ public final class BoundsBackTest {
   private static void goesOn(LarkExchange x) {
     x.days(2);
     x.act(2, 0, 0);
-    x.price(20);
+    c.due("a third price", x.price(20), 3);
+    c.due("a second way", x.way(1, 2), 2);
+    c.due("a second one for the sack", x.sack(4, 4), 2);
   }
 
   private static void p38() {
@@ -218,15 +224,22 @@ public final class BoundsBackTest {
     x.lark(4);
     x.good(4);
     x.trader(4);
-    for (int w = 0; w <= 6; w++) x.set(w, 0, 3);
+    for (int w = 0; w <= 6; w++) x.set(w, 0, 2);
+    x.set(4, 0, 8);
     x.days(3);
     x.act(0, 0, 0);
-    for (int k = 0; k < 4; k++) x.text(k);
+    Check.text(x, 0, "falls 7; rises 8; asks 9; asks 10 when 1=1;");
+    Check.text(x, 1, "on 5 wind 9; on 6 boy 1 9;");
+    Check.text(x, 2, "on 5 trader 1 sell 9 of 0;");
+    Check.text(x, 3, "good 1 by 0;");
     x.price(-1);
-    x.price(50);
+    for (int v = 50; v < 55; v++) x.price(v);
     x.change(0, 1, 0);
+    x.change(1, 0, 99);
     x.way(-1, 0);
+    for (int i = 2; i < 7; i++) x.way(i, i + 1);
     x.sack(-1, 0);
+    for (int i = 4; i < 8; i++) x.sack(i, 9);
     x.state(99);
   }
   private static void p38Anew() {

@@ -113,6 +113,24 @@ public final class BoundsDayTest {
     c.due("day 1001", x.look(6), 1001);
   }
 
+  private static void sixteenLines() {
+    c.sentence(8, "16 lines of each at most.");
+    LarkExchange x = Check.town(1, 1, 1);
+    c.due("dawns", Check.text(x, 1, "on 0 boy 0 1;".repeat(4) + "on 0 calm 0;".repeat(10) + "on 0 wind 3; on 0 wind 8;"), 16);
+    c.due("trades", Check.text(x, 2, "on 0trader 0buy 1of 0;".repeat(8) + "on 0trader 0sell 1of 0;".repeat(7) + "on 0trader 0buy 2of 0;"), 16);
+    x.days(1);
+    c.due("the sixteenth of dawns", x.look(3), 8);
+    c.due("the sixteenth of trades", x.who(0, 10), 3);
+    LarkExchange y = Check.town(1, 1, 1);
+    Check.text(y, 1, "on 0 wind 3; on 0 wind 8;");
+    Check.text(y, 2, "on 0 trader 0 buy 1 of 0; on 0 trader 0 buy 2 of 0;");
+    Check.text(y, 1, "on 0 wind 4;");
+    Check.text(y, 2, "on 0 trader 0 buy 3 of 0;");
+    y.days(1);
+    c.due("nothing of dawns told ahead", y.look(3), 4);
+    c.due("nothing of trades told ahead", y.who(0, 10), 3);
+  }
+
   private static void minutes() {
     c.sentence(8, "HEIGHT 0; then minute by minute, 30 at most");
     LarkExchange x = with(1, 0, 0, "rises 1; falls 0;");
@@ -242,6 +260,9 @@ public final class BoundsDayTest {
     x.days(1);
     c.due("by none any more", x.goodOf(1, 2), 10);
     c.due("not of the lost", x.look(4), 2);
+    Check.text(x, 0, "rises 1; falls 0; asks minute+20;");
+    x.days(1);
+    c.due("minute 0", x.goodOf(0, 2), 20);
     Check.text(x, 0, "rises 1; falls 0; asks 0 when base = 10; asks 1000;");
     x.set(3, 0, 11);
     x.days(1);
@@ -250,6 +271,14 @@ public final class BoundsDayTest {
   }
 
   private static void buying() {
+    c.sentence(8, "Quotients go downwards.");
+    LarkExchange dear = Check.town(0, 1, 1);
+    dear.set(5, 0, 1997);
+    Check.text(dear, 0, "asks 999;");
+    Check.text(dear, 2, "on 0 trader 0 buy 99 of 0;");
+    dear.days(1);
+    c.due("not by one more", dear.who(0, 10), 1);
+    c.due("what is left", dear.who(0, 0), 998);
     c.sentence(8, "buy: as many as N, as PURSE pays and as there is room for (STOCK 99 at most)");
     int[] purses = {0, 9, 10, 19, 20, 29, 30, 31, 9999};
     int[] bought = {0, 0, 1, 1, 2, 2, 3, 3, 3};
@@ -406,7 +435,7 @@ public final class BoundsDayTest {
   }
 
   public static void main(String[] args) {
-    bounds(); dawns(); otherDays(); minutes(); falling(); losing(); prices(); buying(); selling(); ruining(); book();
+    bounds(); dawns(); otherDays(); sixteenLines(); minutes(); falling(); losing(); prices(); buying(); selling(); ruining(); book();
     c.namesAll(8, 8);
     c.namesAll(16, 16);
     c.ends();

@@ -7,7 +7,7 @@ public final class BoundsTellingTest {
   private static void p1() {
     LarkExchange x = new LarkExchange();
     c.sentence(1, "A heath without larks.");
-    for (int w = 0; w <= 13; w++) c.due("look " + w, x.look(w), 0);
+    for (int w = 0; w <= 5; w++) c.due("look " + w, x.look(w), 0);
     for (int w = -1; w <= 8; w++) c.due("no lark " + w, x.of(0, w), -1);
     for (int w = -1; w <= 5; w++) c.due("no good " + w, x.goodOf(0, w), -2);
     for (int w = -1; w <= 18; w++) c.due("no trader " + w, x.who(0, w), -10);
@@ -21,6 +21,18 @@ public final class BoundsTellingTest {
     c.due("no changes", x.round(0, 0), -1);
     c.due("no ways", x.caught(0, 1), -1);
     c.due("nothing for the sack", x.packed(99, 2), 0);
+    c.sentence(1, "STATE of draws (an int, 0 at first)");
+    c.due("STATE", x.look(8), 0);
+    c.sentence(1, "WIND 0 .. 9 (0 at first), DAY 0 .. 9999 (0 at first).");
+    c.due("WIND", x.look(3), 0);
+    c.due("DAY", x.look(6), 0);
+    c.sentence(1, "TEXTS (empty at first).");
+    for (int w = 9; w <= 12; w++) c.due("lines " + w, x.look(w), 0);
+    c.sentence(1, "The constants: `NONE = -1`: None.");
+    c.due("NONE", LarkExchange.NONE, -1);
+    c.sentence(1, "A heath without larks.");
+    c.due("no book", x.look(7), 0);
+    c.due("nothing done", x.look(13), 0);
     c.due("a day on it", x.days(1), 0);
     c.due("its prices", x.goes(60, 0), 0);
     c.due("its purses", x.goes(60, 1), 0);
@@ -228,6 +240,8 @@ public final class BoundsTellingTest {
     c.due("each paid", x.who(0, 0), 900);
     c.due("room for another good", x.act(0, 1, 0), true);
     c.due("sells of 99", x.act(1, 0, 0), true);
+    c.due("sells one alone", x.who(0, 10), 98);
+    c.due("gets for one alone", x.who(0, 0), 901);
     c.due("room again", x.act(0, 0, 0), true);
     LarkExchange y = Check.town(0, 1, 1);
     y.set(5, 0, 9);

@@ -139,7 +139,7 @@ public final class BoundsTextTest {
 
   private static void p11Words() {
     c.sentence(11, "letters (a .. z, A .. Z) as many as stand together are KEYWORDS (those told here for that text) or none");
-    String[] never = {"Rises", "RISES", "rise", "risess", "aises", "riseA", "riseZ", "zrises", "risesz", "risesZ", "arises", "r", "risesfallsasks"};
+    String[] never = {"Rises", "RISES", "rise", "risess", "aises", "riseA", "riseZ", "zrises", "risesa", "risesz", "risesA", "risesZ", "arises", "Arises", "Zrises", "r", "aaaaaa", "heights", "minutes", "scareddd", "risesfallsasks"};
     for (String word : never) bad(0, word + " 1;", 1, 0);
     char[] around = {'@', '[', '`', '{', (char) 193, (char) 225};
     for (char sign : around) {
@@ -198,6 +198,12 @@ public final class BoundsTextTest {
     bad(0, "rises 1\n\n", 1, 9);
     bad(0, "rises 1" + "+1".repeat(196) + " ", 1, 400);
     c.due("a full tape", fine(0, "asks 1" + "+1".repeat(196) + " ;", 1).goodOf(0, 3), 197);
+    LarkExchange twice = new LarkExchange();
+    twice.good(1);
+    for (int i = 0; i < 3; i++) c.fine(twice, 0, "asks 1" + "+1".repeat(196) + ";", 1);
+    c.due("a full tape three times", twice.goodOf(0, 3), 197);
+    bad(0, ";".repeat(400), 1, 0);
+    bad(0, "asks 1;" + ";".repeat(393), 1, 7);
     bad(0, ";", 1, 0);
     bad(0, "rises 1;;", 1, 8);
     bad(1, ";", 1, 0);
@@ -244,6 +250,79 @@ public final class BoundsTextTest {
         bad(k, whole.substring(0, i), 1, i);
         bad(k, whole.substring(0, i) + "! ;", 1, i);
       }
+  }
+
+  private static final String[] TOKENS = ("rises falls asks when or and not voice height top scared wind minute base lost day on boy calm seek"
+      + " trader buy sell of good by ; + - * / ( ) < = > 1").split(" ");
+  private static final String UNITS = " voice height top scared wind minute base lost day 1 ";
+  /** Behind that beginning just these tokens can stand; each other one is FAULT 1 at its place. */
+  private static void only(int k, String beginning, String allowed) {
+    for (String token : TOKENS) {
+      LarkExchange x = Check.town(2, 2, 2);
+      Check.text(x, k, beginning + token);
+      boolean stands = (" " + allowed + " ").contains(" " + token + " ");
+      c.due("'" + beginning + token + "' " + (stands ? "can" : "can't") + " stand", x.fault(1) != beginning.length(), stands);
+      if (!stands) c.due("its fault", x.fault(0), 1);
+    }
+  }
+  private static void p11Only() {
+    c.sentence(11, "0 THE LAW = {(rises | falls | asks) E [when B] ;}.");
+    only(0, "", "rises falls asks");
+    only(0, "rises 1; ", "rises falls asks");
+    only(0, "falls ", UNITS);
+    only(0, "rises 2 ", "+ - * / when ;");
+    only(0, "asks day ", "+ - * / when ;");
+    only(0, "rises 2 when ", UNITS + "not (");
+    only(0, "rises 2 when 2<3 ", "+ - * / and or ;");
+    only(0, "rises 2 + ", UNITS);
+    only(0, "rises 2 - ", UNITS);
+    only(0, "rises 2 * ", UNITS);
+    only(0, "rises 2 / ", "1");
+    only(0, "rises 2 / 2 ", "+ - * / when ;");
+    only(0, "rises 2 when 2 ", "+ - * / < = >");
+    only(0, "rises 2 when 2 < ", UNITS);
+    only(0, "rises 2 when 2 = ", UNITS);
+    only(0, "rises 2 when 2 > ", UNITS);
+    only(0, "rises 2 when not ", UNITS + "not (");
+    only(0, "rises 2 when ( ", UNITS + "not (");
+    only(0, "rises 2 when (2<3 ", "+ - * / and or )");
+    only(0, "rises 2 when (2<3) ", "and or ;");
+    only(0, "rises 2 when ((2<3) ", "and or )");
+    only(0, "rises 2 when 2<3 and ", UNITS + "not (");
+    only(0, "rises 2 when 2<3 or ", UNITS + "not (");
+    c.sentence(11, "1 DAWNS = {on DAY (boy LARK N | calm LARK | wind N | seek LARK) ;}");
+    only(1, "", "on");
+    only(1, "on 1 wind 1; ", "on");
+    only(1, "on ", "1");
+    only(1, "on 1 ", "boy calm wind seek");
+    only(1, "on 1 boy ", "1");
+    only(1, "on 1 calm ", "1");
+    only(1, "on 1 wind ", "1");
+    only(1, "on 1 seek ", "1");
+    only(1, "on 1 boy 1 ", "1");
+    only(1, "on 1 boy 1 1 ", ";");
+    only(1, "on 1 calm 1 ", ";");
+    only(1, "on 1 wind 1 ", ";");
+    only(1, "on 1 seek 1 ", ";");
+    c.sentence(11, "2 TRADES = {on DAY trader TRADER (buy | sell) N of GOOD ;} (N 1 .. 99.)");
+    only(2, "", "on");
+    only(2, "on ", "1");
+    only(2, "on 1 ", "trader");
+    only(2, "on 1 trader ", "1");
+    only(2, "on 1 trader 1 ", "buy sell");
+    only(2, "on 1 trader 1 buy ", "1");
+    only(2, "on 1 trader 1 sell ", "1");
+    only(2, "on 1 trader 1 sell 1 ", "of");
+    only(2, "on 1 trader 1 sell 1 of ", "1");
+    only(2, "on 1 trader 1 sell 1 of 1 ", ";");
+    only(2, "on 1 trader 1 sell 1 of 1;", "on");
+    c.sentence(11, "3 BOUND = {good GOOD by LARK ;}");
+    only(3, "", "good");
+    only(3, "good ", "1");
+    only(3, "good 1 ", "by");
+    only(3, "good 1 by ", "1");
+    only(3, "good 1 by 1 ", ";");
+    only(3, "good 1 by 1; ", "good");
   }
 
   private static void p11Numbers() {
@@ -366,7 +445,7 @@ public final class BoundsTextTest {
 
   public static void main(String[] args) {
     p9(); p10();
-    p11Tape(); p11Bound(); p11Words(); p11CantStand(); p11Numbers(); p11TooMuch(); p11First();
+    p11Tape(); p11Bound(); p11Words(); p11CantStand(); p11Only(); p11Numbers(); p11TooMuch(); p11First();
     p12();
     c.namesAll(9, 12);
     c.ends();

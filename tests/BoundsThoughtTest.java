@@ -20,11 +20,13 @@ public final class BoundsThoughtTest {
     for (int i = 1; i <= 14; i++) c.due("how many", x.price(i == 14 ? 99 : i), i);
     c.due("a fifteenth", x.price(50), -1);
     for (int v : wrong) c.due("full, price " + v, x.price(v), -1);
+    c.sentence(19, "TRADING: a told row of up to 14 prices (1 .. 99)");
     c.due("the row is as it was", x.window(1, 0), 99);
     c.due("where", x.window(1, 1), 13);
     c.due("none is then", x.price(-1), 0);
     c.due("none", x.window(1, 1), -1);
     c.due("the first again", x.price(1), 1);
+    c.due("the row of one", x.row(4), 1);
     c.due("the least price", x.row(0), 1);
   }
 
@@ -67,7 +69,7 @@ public final class BoundsThoughtTest {
       c.due("nd " + nd, x.change(0, 1, nd), nd == 0 || nd >= 11 && nd <= 99 && nd % 10 != 0);
     int[] far = {FAR_DOWN, FAR_UP, 1011, -11};
     for (int nd : far) c.due("nd " + nd, x.change(0, 1, nd), false);
-    c.sentence(21, "(n, d 1 .. 9; none at first)");
+    c.sentence(21, "told changes among moneys 0 .. 3: for d of a one gets n of b (n, d 1 .. 9; none at first)");
     c.due("no way at first", new LarkExchange().round(0, 0), -1);
     LarkExchange y = new LarkExchange();
     y.change(0, 3, 91);
@@ -111,6 +113,17 @@ public final class BoundsThoughtTest {
     c.due("each once: not by the dear way between", y.round(2, 0), 1);
     c.due("each once, below", y.round(2, 1), 2);
     c.due("the most of several", y.round(0, 0), 81);
+    int[][] ways = {{32, 43}, {43, 32}, {98, 87}, {87, 98}, {11, 12}, {12, 11}, {53, 95}, {95, 53}};
+    int[][] greater = {{3, 2}, {3, 2}, {8, 7}, {8, 7}, {1, 1}, {1, 1}, {9, 5}, {9, 5}};
+    for (int i = 0; i < ways.length; i++) {
+      LarkExchange z = new LarkExchange();
+      z.change(0, 1, ways[i][0]);
+      z.change(1, 0, 11);
+      z.change(0, 2, ways[i][1]);
+      z.change(2, 0, 11);
+      c.due("the greater of two ways, above", z.round(0, 0), greater[i][0]);
+      c.due("the greater of two ways, below", z.round(0, 1), greater[i][1]);
+    }
     LarkExchange all = new LarkExchange();
     for (int a = 0; a < 4; a++) for (int b = 0; b < 4; b++) if (a != b) all.change(a, b, 91);
     c.due("the most there can be", all.round(3, 0), 6561);
@@ -207,7 +220,12 @@ public final class BoundsThoughtTest {
 
   private static void p27() {
     LarkExchange x = new LarkExchange();
-    c.sentence(27, "hundred behind how many (onehundred), then the rest, without a blank and without and: how many letters");
+    c.sentence(27, "IN WORDS n (0 .. 999): zero one two three four five six seven eight nine ten eleven twelve thirteen fourteen fifteen sixteen seventeen"
+        + " eighteen nineteen twenty thirty forty fifty sixty seventy eighty ninety, hundred behind how many (onehundred), then the rest, without a blank and without and: how many letters");
+    String[] list = ("zero one two three four five six seven eight nine ten eleven twelve thirteen fourteen fifteen sixteen seventeen eighteen nineteen"
+        + " twenty thirty forty fifty sixty seventy eighty ninety").split(" ");
+    for (int i = 0; i < list.length; i++) c.due(list[i], x.words(i <= 20 ? i : 10 * (i - 18), 0), list[i].length());
+    for (int i = 1; i <= 9; i++) c.due(list[i] + "hundredfortytwo", x.words(100 * i + 42, 0), list[i].length() + 15);
     String[] words = {"zero", "one", "nineteen", "twenty", "twentyone", "ninetynine", "onehundred", "onehundredone", "onehundredten",
         "onehundredtwenty", "ninehundredninetynine", "forty", "ninehundred", "fivehundredthirteen"};
     int[] numbers = {0, 1, 19, 20, 21, 99, 100, 101, 110, 120, 999, 40, 900, 513};
@@ -232,6 +250,8 @@ public final class BoundsThoughtTest {
       c.due("most of " + k, x.window(k, 0), most[k - 1]);
       c.due("where of " + k, x.window(k, 1), where[k - 1]);
     }
+    c.due("one of the least price", row(1).window(1, 0), 1);
+    c.due("where that is", row(1).window(1, 1), 0);
     LarkExchange full = row(99, 99, 99, 99, 99, 99, 99, 99, 99, 99, 99, 99, 99, 99);
     c.due("all fourteen", full.window(14, 0), 1386);
     c.due("from the first", full.window(14, 1), 0);
@@ -316,6 +336,8 @@ public final class BoundsThoughtTest {
     c.due("b NONE", x.way(1, -1), -1);
     for (int v = 0; v < 8; v++) c.due("alike " + v, x.way(v, v), -1);
     c.due("none of none", x.way(-1, 0), 0);
+    c.due("the greatest and the least place", x.way(7, 0), 1);
+    c.due("none again", x.way(-1, 0), 0);
     c.due("the least and the greatest place", x.way(0, 7), 1);
     for (int i = 2; i <= 14; i++) c.due("how many", x.way(i % 7, 7), i);
     c.due("a fifteenth", x.way(1, 2), -1);
@@ -334,7 +356,8 @@ public final class BoundsThoughtTest {
     return x;
   }
   private static void p32() {
-    c.sentence(32, "it is caught, as soon as both are at one place: behind how many goings of the hawk (of several ways the fewest there can be, the lark putting it off as long as it can; alike: 0; NONE: never).");
+    c.sentence(32, "places 0 .. 7, up to 14 told ways between two (either way): a hawk at a, a lark at b: by turns, the hawk first,"
+        + " each goes one way or stays (that is a going, too); it is caught, as soon as both are at one place: behind how many goings of the hawk (of several ways the fewest there can be, the lark putting it off as long as it can; alike: 0; NONE: never).");
     LarkExchange none = heath();
     for (int p = 0; p < 8; p++) c.due("alike", none.caught(p, p), 0);
     c.due("no way", none.caught(0, 1), -1);
@@ -388,7 +411,7 @@ public final class BoundsThoughtTest {
   }
 
   private static void p34() {
-    c.sentence(34, "taken into a sack for w (0 .. 99) by what their worth by weight is, the greatest first (as told, if alike), the first that does not go in whole in part, and none behind it: the worth as a fraction in lowest terms; how many go in whole.");
+    c.sentence(34, "SACK: up to 8 told (weight 1 .. 30, worth 1 .. 99), taken into a sack for w (0 .. 99) by what their worth by weight is, the greatest first (as told, if alike), the first that does not go in whole in part, and none behind it: the worth as a fraction in lowest terms; how many go in whole.");
     LarkExchange x = new LarkExchange();
     x.sack(10, 10);
     x.sack(2, 2);
@@ -401,6 +424,15 @@ public final class BoundsThoughtTest {
     y.sack(2, 2);
     y.sack(10, 10);
     c.due("alike: as told", y.packed(5, 2), 1);
+    LarkExchange up = new LarkExchange();
+    for (int i = 1; i <= 8; i++) up.sack(10, i * i);
+    int[] goesUp = {64, 113, 149, 174, 190, 199, 203, 204};
+    for (int i = 1; i <= 8; i++) c.due("told the least first, " + i, up.packed(10 * i, 0), goesUp[i - 1]);
+    LarkExchange mixed = new LarkExchange();
+    int[] worths = {30, 10, 50, 20, 80, 40, 70, 60};
+    for (int v : worths) mixed.sack(10, v);
+    int[] goesMixed = {80, 150, 210, 260, 300, 330, 350, 360};
+    for (int i = 1; i <= 8; i++) c.due("told in no order, " + i, mixed.packed(10 * i, 0), goesMixed[i - 1]);
     LarkExchange empty = new LarkExchange();
     int[] nothing = {0, 1, 0};
     for (int w = 0; w <= 2; w++) c.due("of nothing " + w, empty.packed(99, w), nothing[w]);
@@ -463,11 +495,20 @@ public final class BoundsThoughtTest {
     for (int h : wrongH) c.due("h " + h, x.game(h, 100, 3), -1);
     int[] wrongS = {0, -1, 101, FAR_DOWN, FAR_UP};
     for (int s : wrongS) c.due("s " + s, x.game(0, s, 3), -1);
+    c.due("two below a sky at 101", x.game(99, 101, 3), -1);
+    c.due("two below a sky at 1", x.game(-1, 1, 3), -1);
+    c.due("two below a sky at 102", x.game(100, 102, 3), -1);
     c.due("h at s", x.game(5, 5, 3), -1);
     c.due("h above s", x.game(6, 5, 3), -1);
     c.sentence(36, "GAME. NONE, too, if one can't be.");
     int[] wrongK = {1, 0, -1, 10, FAR_DOWN, FAR_UP};
     for (int k : wrongK) c.due("k " + k, x.game(0, 3, k), -1);
+    for (int k = 2; k <= 9; k++)
+      for (int s = 1; s <= 100; s++) {
+        LarkExchange other = new LarkExchange();
+        if (s % 10 == k) x = new LarkExchange();
+        c.due("behind other games, the sky at " + s + ", by " + k, x.game(0, s, k), other.game(0, s, k));
+      }
     c.due("k 9 can be", x.game(0, 3, 9), 1);
     c.due("k 2 can be", x.game(97, 99, 2), 1);
   }

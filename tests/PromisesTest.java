@@ -4,14 +4,6 @@ public final class PromisesTest {
   private static final int FIRST_STATE = 1013904223;  // behind one DRAW from 0; it is 563 of 1000
   private static final int SECOND_STATE = 1196435762; // behind two; that is 577 of 1000
 
-  private static LarkExchange town(int larks, int goods, int traders) {
-    LarkExchange x = new LarkExchange();
-    for (int i = 0; i < larks; i++) x.lark(3);
-    for (int i = 0; i < goods; i++) x.good(10);
-    for (int i = 0; i < traders; i++) x.trader(100);
-    return x;
-  }
-
   private static void p1() {
     LarkExchange x = new LarkExchange();
     for (int i = 0; i <= 13; i++) c.due("1 look " + i, x.look(i), 0);
@@ -26,7 +18,7 @@ public final class PromisesTest {
   }
 
   private static void p2() {
-    LarkExchange x = town(1, 0, 0);
+    LarkExchange x = Check.town(1, 0, 0);
     c.due("2 first", x.state(7), 0);
     c.due("2 then", x.state(-5), 7);
     c.due("2 is", x.look(8), -5);
@@ -57,7 +49,7 @@ public final class PromisesTest {
     c.due("3 voice 9", x.of(5, 0), 9);
     for (int w = 1; w <= 4; w++) c.due("3 at first", x.of(5, w), 0);
     c.due("3 look", x.look(0), 6);
-    LarkExchange y = town(1, 0, 0);
+    LarkExchange y = Check.town(1, 0, 0);
     y.days(1);
     y.lark(99);
     c.due("3 refused does not forget", y.look(13), 1);
@@ -75,7 +67,7 @@ public final class PromisesTest {
     c.due("4 by", x.goodOf(7, 1), -1);
     c.due("4 price", x.goodOf(7, 2), 99);
     c.due("4 look", x.look(1), 8);
-    LarkExchange y = town(0, 1, 0);
+    LarkExchange y = Check.town(0, 1, 0);
     y.days(1);
     y.good(5);
     c.due("4 forgets", y.look(13), 0);
@@ -90,14 +82,14 @@ public final class PromisesTest {
     c.due("5 purse", x.who(9, 0), 9999);
     c.due("5 ruined", x.who(0, 1), 0);
     c.due("5 look", x.look(2), 10);
-    LarkExchange y = town(0, 1, 1);
+    LarkExchange y = Check.town(0, 1, 1);
     y.days(1);
     y.trader(5);
     c.due("5 forgets", y.look(13), 0);
   }
 
   private static void p6() {
-    LarkExchange x = town(2, 2, 2);
+    LarkExchange x = Check.town(2, 2, 2);
     int[] least = {0, 0, 0, 1, 1, 0, 0};
     int[] most = {9, 999, 9, 99, 999, 9999, 9};
     for (int w = 0; w <= 6; w++) {
@@ -129,7 +121,7 @@ public final class PromisesTest {
   }
 
   private static void p7() {
-    LarkExchange x = town(2, 2, 2);
+    LarkExchange x = Check.town(2, 2, 2);
     c.due("7 buy", x.act(0, 1, 1), true);
     c.due("7 pays", x.who(1, 0), 90);
     c.due("7 has", x.who(1, 11), 1);
@@ -167,7 +159,7 @@ public final class PromisesTest {
     c.due("7 height 0", x.of(0, 1), 0);
     c.due("7 top stays", x.of(0, 2), 999);
     c.due("7 seek again", x.act(3, 0, 0), false);
-    LarkExchange y = town(0, 1, 1);
+    LarkExchange y = Check.town(0, 1, 1);
     y.set(5, 0, 1);
     y.days(1);
     y.set(5, 0, 500);
@@ -176,7 +168,7 @@ public final class PromisesTest {
   }
 
   private static void p8Bounds() {
-    LarkExchange x = town(1, 0, 0);
+    LarkExchange x = Check.town(1, 0, 0);
     c.due("8 zero", x.days(0), -1);
     c.due("8 sixty-one", x.days(61), -1);
     c.due("8 below", x.days(Integer.MIN_VALUE), -1);
@@ -194,7 +186,7 @@ public final class PromisesTest {
   }
 
   private static void p8Larks() {
-    LarkExchange x = town(2, 2, 0);
+    LarkExchange x = Check.town(2, 2, 0);
     Check.text(x, 3, "good 0 by 0;");
     Check.text(x, 0, "rises 16 when voice = 3 and minute < 29; rises 36; falls 0 when minute < 9; falls 0;");
     x.set(2, 0, 2);
@@ -226,7 +218,7 @@ public final class PromisesTest {
   }
 
   private static void p8Falls() {
-    LarkExchange x = town(1, 1, 0);
+    LarkExchange x = Check.town(1, 1, 0);
     Check.text(x, 3, "good 0 by 0;");
     Check.text(x, 0, "rises 99; falls 1000 when minute = 4 and height = 495 and top = 495; falls 0;");
     c.due("8 fell", x.days(1), 1);
@@ -244,7 +236,7 @@ public final class PromisesTest {
   }
 
   private static void p8Trades() {
-    LarkExchange x = town(0, 2, 3);
+    LarkExchange x = Check.town(0, 2, 3);
     x.set(5, 1, 9);
     Check.text(x, 0, "asks 7 when base = 10 and day > 1; asks 10;");
     Check.text(x, 2, "on 0 trader 0 buy 3 of 0; on 0 trader 0 sell 99 of 1; on 0 trader 1 buy 1 of 0; on 0 trader 0 buy 99 of 1;"
@@ -266,21 +258,21 @@ public final class PromisesTest {
     c.due("8 sold by twos", x.who(0, 0), 21);
     c.due("8 no line of none", x.look(7), 5);
     c.due("8 sold one", x.book(4, 3), 1);
-    LarkExchange y = town(0, 1, 1);
+    LarkExchange y = Check.town(0, 1, 1);
     y.set(5, 0, 9999);
     y.set(3, 0, 1);
     Check.text(y, 2, "on 0 trader 0 buy 98 of 0; on 0 trader 0 buy 9 of 0;");
     y.days(1);
     c.due("8 room", y.who(0, 10), 99);
     c.due("8 one more", y.book(1, 3), 1);
-    LarkExchange z = town(0, 0, 1);
+    LarkExchange z = Check.town(0, 0, 1);
     z.set(5, 0, 0);
     z.days(1);
     c.due("8 no good, no ruin", z.who(0, 1), 0);
   }
 
   private static void p9to12() {
-    LarkExchange x = town(1, 1, 1);
+    LarkExchange x = Check.town(1, 1, 1);
     for (int i = 1; i <= 20; i++) c.due("9 feed", x.feed(0x20202020, 0x20202020, 0x20202020, 0x20202020, 0x20202020), 20 * i);
     c.due("9 too many", x.feed(1, 1, 1, 1, 1), -1);
     c.due("10 beyond", x.end(401), false);
@@ -323,7 +315,7 @@ public final class PromisesTest {
   }
 
   private static void p11Faults() {
-    LarkExchange x = town(2, 2, 2);
+    LarkExchange x = Check.town(2, 2, 2);
     c.faulty(x, 0, "rises;", 1, 5);
     c.faulty(x, 0, "Rises 1;", 1, 0);
     for (String letter : new String[] {"a", "z", "A", "Z", "x"}) c.faulty(x, 0, "rises" + letter + " 1;", 1, 0);
@@ -392,7 +384,7 @@ public final class PromisesTest {
   }
 
   private static void p13() {
-    LarkExchange x = town(2, 3, 0);
+    LarkExchange x = Check.town(2, 3, 0);
     for (int w = 0; w <= 7; w++) {
       c.due("13 no lark", x.of(2, w), -1);
       c.due("13 below", x.of(-1, w), -1);
@@ -434,7 +426,7 @@ public final class PromisesTest {
   }
 
   private static void p14() {
-    LarkExchange x = town(1, 2, 2);
+    LarkExchange x = Check.town(1, 2, 2);
     for (int w = 0; w <= 4; w++) {
       c.due("14 no good", x.goodOf(2, w), -2);
       c.due("14 below", x.goodOf(-1, w), -2);
@@ -459,7 +451,7 @@ public final class PromisesTest {
   }
 
   private static void p15and16() {
-    LarkExchange x = town(0, 2, 2);
+    LarkExchange x = Check.town(0, 2, 2);
     c.due("15 no trader", x.who(2, 0), -10);
     c.due("15 below", x.who(-1, 0), -10);
     c.due("15 what 3", x.who(0, 3), -10);
@@ -483,7 +475,7 @@ public final class PromisesTest {
   }
 
   private static void p17and18() {
-    LarkExchange x = town(2, 2, 2);
+    LarkExchange x = Check.town(2, 2, 2);
     c.due("17 n 0", x.goes(0, 0), -100);
     c.due("17 n 61", x.goes(61, 0), -100);
     c.due("17 another", x.goes(1, 4), -100);
@@ -511,7 +503,7 @@ public final class PromisesTest {
     x.days(2);
     c.due("18 now", x.ruin(0), 0);
     c.due("17 ruined then", x.goes(1, 3), 1);
-    LarkExchange y = town(0, 1, 1);
+    LarkExchange y = Check.town(0, 1, 1);
     Check.text(y, 0, "asks 9 when day < 60; asks 999;");
     c.due("18 behind sixty-one", y.ruin(0), -1);
   }
@@ -764,7 +756,7 @@ public final class PromisesTest {
   }
 
   private static void p37() {
-    LarkExchange x = town(1, 1, 1);
+    LarkExchange x = Check.town(1, 1, 1);
     x.state(5);
     c.due("37 nothing", x.undo(), false);
     Check.text(x, 0, "rises 99; falls 0; asks 33;");
@@ -821,7 +813,7 @@ public final class PromisesTest {
   }
 
   private static void p38() {
-    LarkExchange x = town(1, 1, 1);
+    LarkExchange x = Check.town(1, 1, 1);
     c.due("38 none", x.image(false), false);
     Check.text(x, 0, "asks 5; falls 1000;");
     Check.text(x, 1, "on 0 wind 3;");
@@ -867,7 +859,7 @@ public final class PromisesTest {
       c.due("38 the tape as told", x.text(0), 1);
       c.due("38 asks 7", x.goodOf(0, 3), 7);
     }
-    LarkExchange y = town(0, 2, 2);
+    LarkExchange y = Check.town(0, 2, 2);
     y.act(0, 0, 0);
     y.act(0, 1, 1);
     y.image(true);
@@ -886,7 +878,7 @@ public final class PromisesTest {
   }
 
   private static void p39() {
-    LarkExchange x = town(2, 3, 4);
+    LarkExchange x = Check.town(2, 3, 4);
     c.due("39 larks", x.look(0), 2);
     c.due("39 goods", x.look(1), 3);
     c.due("39 traders", x.look(2), 4);
