@@ -92,6 +92,12 @@ public final class BoundsAskingTest {
     c.fine(x, 0, "asks 1 when 1=2; asks 33;", 2);
     c.fine(x, 0, "asks 1 when 1=2;", 1);
     c.due("none of what was told ahead", x.goodOf(0, 3), 10);
+    c.fine(x, 0, "rises 7 when not 1=2;", 1);
+    c.fine(x, 0, "rises 7 when 1=1;", 1);
+    c.due("no not of what was told ahead", x.of(0, 5), 7);
+    c.fine(x, 0, "rises 7 when 1=2 or 1=1 and 1=1;", 1);
+    c.fine(x, 0, "rises 9;", 1);
+    c.due("no condition of what was told ahead", x.of(0, 5), 9);
     c.sentence(13, "(none: rises: 5 and voice, falls: 100 and 100 times scared less 10 times voice, asks: base and height by 10)");
     c.fine(x, 0, "rises 1 when 1=2; falls 1 when 1=2; asks 1 when 1=2;", 3);
     int[] voices = {0, 9, 0, 9};

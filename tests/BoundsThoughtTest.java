@@ -27,6 +27,18 @@ public final class BoundsThoughtTest {
     c.due("none", x.window(1, 1), -1);
     c.due("the first again", x.price(1), 1);
     c.due("the row of one", x.row(4), 1);
+    c.sentence(19, "(NONE: none is then)");
+    LarkExchange anew = row(50, 60, 40, 99, 1, 98, 97, 99, 3, 2, 1, 5, 9, 7);
+    anew.price(-1);
+    int[] fewer = {30, 20};
+    for (int v : fewer) anew.price(v);
+    LarkExchange fresh = row(fewer);
+    for (int w = 0; w <= 4; w++) c.due("of the row told ahead nothing, row " + w, anew.row(w), fresh.row(w));
+    for (int k = 1; k <= 5; k++)
+      for (int w = 0; w <= 1; w++) {
+        c.due("nor for a window", anew.window(k, w), fresh.window(k, w));
+        c.due("nor for trading", anew.trading(k, w), fresh.trading(k, w));
+      }
     c.due("the least price", x.row(0), 1);
   }
 
