@@ -456,9 +456,9 @@ public final class LarkExchange {
             return sums.unlikeParts(n);
         }
         if (what == 1) {
-            return sums.partsBy(n, n, 2);
+            return sums.partsUpTo(n, n, true);
         }
-        return isOutside(what, 101, 160) ? NONE : sums.partsBy(n, what - 100, 1);
+        return isOutside(what, 101, 160) ? NONE : sums.partsUpTo(n, what - 100, false);
     }
 
     public int game(int h, int s, int k) {
@@ -1134,23 +1134,30 @@ public final class LarkExchange {
         private void splits() {
             tokens = 0;
             for (int i = 0; i < length; i++) {
-                if (tape[i] == ' ' || tape[i] == '\n') {
-                    continue;
+                if (beginsToken(i)) {
+                    int behind = behindRun(i);
+                    keeps(kindOf(i, behind), i, isDigit(i) ? valueOf(i, behind) : 0);
                 }
-                int behind = behindRun(i);
-                keeps(kindOf(i, behind), i);
-                if (isDigit(i)) {
-                    values[tokens - 1] = valueOf(i, behind);
-                }
-                i = behind - 1;
             }
-            keeps(END, length);
+            keeps(END, length, 0);
         }
 
-        private void keeps(int kind, int from) {
+        /** No blank, and no letter behind a letter, no digit behind a digit: those stand together. */
+        private boolean beginsToken(int i) {
+            if (tape[i] == ' ' || tape[i] == '\n') {
+                return false;
+            }
+            if (i == 0) {
+                return true;
+            }
+            return isDigit(i) ? !isDigit(i - 1) : !isLetter(i) || !isLetter(i - 1);
+        }
+
+        private void keeps(int kind, int from, int value) {
             if (tokens <= TAPE_BYTES) {
                 kinds[tokens] = kind;
                 places[tokens] = from;
+                values[tokens] = value;
                 tokens++;
             }
         }
@@ -1893,11 +1900,11 @@ public final class LarkExchange {
             return ways[n];
         }
 
-        /** Parts of 1, 1 + step, .. up to most. */
-        int partsBy(int n, int most, int step) {
+        /** Parts of 1 up to most, or the odd ones of them alone. */
+        int partsUpTo(int n, int most, boolean odd) {
             Arrays.fill(ways, 0);
             ways[0] = 1;
-            for (int part = 1; part <= most; part += step) {
+            for (int part = 1; part <= most; part += odd ? 2 : 1) {
                 for (int sum = part; sum <= n; sum++) {
                     ways[sum] += ways[sum - part];
                 }
